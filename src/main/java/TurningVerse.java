@@ -66,7 +66,7 @@ public final class TurningVerse {
         if (n < LEAST_LINES || n > MOST_LINES) {
             return BAD;
         }
-        history.record(now);
+        history.remember(now);
         int before = now.n;
         now.startWith(n);
         return before;
@@ -76,7 +76,7 @@ public final class TurningVerse {
         if (!isLine(w) || v < 0 || v >= SOUNDS) {
             return BAD;
         }
-        history.record(now);
+        history.remember(now);
         int before = Row.entry(now.sounds, w);
         now.sounds = Row.with(now.sounds, w, v);
         return before;
@@ -106,7 +106,7 @@ public final class TurningVerse {
         if (fault != RIGHT) {
             return FAULT - fault;
         }
-        history.record(now);
+        history.remember(now);
         if (poemReader.n != now.n) {
             now.startWith(poemReader.n);
         }
@@ -165,7 +165,7 @@ public final class TurningVerse {
         }
         int found = Permutation.firstRoot(now.registers[a], k, now.n);
         if (found == NO_ROW) {
-            history.record(now);
+            history.remember(now);
             return NONE;
         }
         return store(to, found);
@@ -236,7 +236,7 @@ public final class TurningVerse {
         if (poem.count >= MOST_STANZAS) {
             return FULL;
         }
-        history.record(now);
+        history.remember(now);
         if (poem.count == 0) {
             poem.append(Row.ascending(now.n));
         } else {
@@ -249,7 +249,7 @@ public final class TurningVerse {
         if (now.poem.count == 0) {
             return STATE;
         }
-        history.record(now);
+        history.remember(now);
         now.poem.count--;
         return now.poem.count;
     }
@@ -258,7 +258,7 @@ public final class TurningVerse {
         if (!isStanza(s) || !isLine(i) || !isLine(w)) {
             return BAD;
         }
-        history.record(now);
+        history.remember(now);
         int row = now.poem.rows[s];
         now.poem.rows[s] = Row.with(row, i, w);
         return Row.entry(row, i);
@@ -268,7 +268,7 @@ public final class TurningVerse {
         if (!isStanza(s) || !isLine(i)) {
             return BAD;
         }
-        history.record(now);
+        history.remember(now);
         int locks = now.poem.locks[s];
         int place = 1 << i;
         now.poem.locks[s] = on ? locks | place : locks & ~place;
@@ -303,7 +303,7 @@ public final class TurningVerse {
         }
         int p = now.poem.turnBehind(0, now.n);
         if (p == NO_ROW || !now.poem.turnsBy(p, now.n)) {
-            history.record(now);
+            history.remember(now);
             return NONE;
         }
         return store(to, p);
@@ -333,7 +333,7 @@ public final class TurningVerse {
         if (now.poem.count == 0) {
             return STATE;
         }
-        history.record(now);
+        history.remember(now);
         int p = now.registers[r];
         int changes = fit.changes(now.poem, p, now.n);
         if (changes != NONE) {
@@ -349,7 +349,7 @@ public final class TurningVerse {
         if (now.poem.count == 0) {
             return STATE;
         }
-        history.record(now);
+        history.remember(now);
         int p = fit.bestPermutation(now.poem, now.n);
         if (p == NO_ROW) {
             return NONE;
@@ -514,7 +514,7 @@ public final class TurningVerse {
 
     /** Writes a register, which is a change, and returns the number of the permutation. */
     private int store(int r, int p) {
-        history.record(now);
+        history.remember(now);
         now.registers[r] = p;
         return Permutation.number(p, now.n);
     }
@@ -618,11 +618,15 @@ public final class TurningVerse {
                 case 4:
                     return i == 0 ? k : i == k ? 0 : i;
                 case 5:
-                    int even = (n + 1) / 2;
-                    return i < even ? 2 * i : 2 * (i - even) + 1;
+                    return lineOfWeave(n, i);
                 default:
                     return i;
             }
+        }
+
+        private static int lineOfWeave(int n, int i) {
+            int even = (n + 1) / 2;
+            return i < even ? 2 * i : 2 * (i - even) + 1;
         }
 
         static int inverse(int p, int n) {
@@ -897,7 +901,7 @@ public final class TurningVerse {
             }
         }
 
-        void record(State state) {
+        void remember(State state) {
             states[next].copyFrom(state);
             next = (next + 1) % MOST_REMEMBERED;
             count = Math.min(count + 1, MOST_REMEMBERED);
@@ -1336,9 +1340,9 @@ public final class TurningVerse {
             int order = Permutation.order(p, n);
             int row = sounds;
             for (int turns = 0; turns < order && count < seen.length; turns++) {
-                int pattern = pattern(row, n);
-                if (!isAmong(pattern, seen, count)) {
-                    seen[count] = pattern;
+                int number = pattern(row, n);
+                if (!isAmong(number, seen, count)) {
+                    seen[count] = number;
                     count++;
                 }
                 row = Row.turned(row, p, n);
@@ -1346,9 +1350,9 @@ public final class TurningVerse {
             return count;
         }
 
-        private static boolean isAmong(int pattern, int[] seen, int count) {
+        private static boolean isAmong(int number, int[] seen, int count) {
             for (int i = 0; i < count && i < seen.length; i++) {
-                if (seen[i] == pattern) {
+                if (seen[i] == number) {
                     return true;
                 }
             }
