@@ -291,6 +291,15 @@ final class TermEdges {
 
     private static void costs() {
         TurningVerse x = new TurningVerse();
+        Sentences.of(Sentences.TERMS, "from those of a poem with equally many stanzas that follows the permutation");
+        Check.loadPoem(x, "ab/ba/ab/ba/ab/ba/ab/aa");
+        x.make(1, 2, 0);
+        Sentences.due("eight stanzas", x.mend(1), 1);
+        Sentences.due("still eight", x.told(1), 8);
+        Sentences.due("the last one", Check.words(x, 7), 10);
+        Check.loadPoem(x, "bb");
+        Sentences.due("one stanza", x.mend(1), 1);
+        Sentences.due("still one", x.told(1), 1);
         Sentences.of(Sentences.TERMS, "does not differ from it in a locked place");
         Check.loadPoem(x, "aab");
         Sentences.due("no lock", x.mend(0), 1);
@@ -355,6 +364,10 @@ final class TermEdges {
         x.undo();
         Sentences.due("the ninth is not", x.told(1), 7);
         Sentences.due("those that change nothing are not either", readAll(x), 7);
+        x.drop();
+        Sentences.due("one that drops a stanza is", x.told(5), 8);
+        x.undo();
+        Sentences.due("and is undone", x.told(1), 7);
     }
 
     /** Calls everything that is no change, and returns how many states are remembered. */
